@@ -82,9 +82,6 @@ public final class OneCup {
     private int statesGone;
 
     public OneCup() {
-        for (int k = 0; k < IMAGES; k++) {
-            images[k] = new Evening();
-        }
         for (int s = 0; s < SLOTS; s++) {
             rowLength[s] = NONE;
         }
@@ -614,8 +611,12 @@ public final class OneCup {
         if (k < 0 || k >= IMAGES) {
             return refuse();
         }
-        images[k].copyFrom(now);
-        images[k].kept = true;
+        Evening image = images[k];
+        if (image == null) {
+            image = new Evening();
+            images[k] = image;
+        }
+        image.copyFrom(now);
         return 0;
     }
 
@@ -623,10 +624,11 @@ public final class OneCup {
         if (k < 0 || k >= IMAGES) {
             return refuse();
         }
-        if (!images[k].kept) {
+        Evening image = images[k];
+        if (image == null) {
             return EMPTY;
         }
-        now.copyFrom(images[k]);
+        now.copyFrom(image);
         allRuns.gone = false;
         logIsMade();
         return 0;
@@ -1181,6 +1183,16 @@ public final class OneCup {
                 }
             }
             return NONE;
+        }
+
+        int ableBits() {
+            int bits = 0;
+            for (int hand = 0; hand < HANDS; hand++) {
+                if (can(hand)) {
+                    bits |= 1 << hand;
+                }
+            }
+            return bits;
         }
 
         /** The hand, which can, goes: the code that it did as an act; NONE: it went by one. */
@@ -2047,20 +2059,19 @@ public final class OneCup {
         private void goOnFrom(int s, Machine machine, Visited visited) {
             visited.load(s, state);
             machine.unpack(state);
-            boolean isEnd = true;
+            int able = machine.ableBits();
+            if (able == 0) {
+                noteEnd(s, machine.stuckBits(), visited);
+            }
             for (int h = 0; h < HANDS && !spent; h++) {
-                if (!machine.can(h)) {
+                if (((able >> h) & 1) == 0) {
                     continue;
                 }
-                isEnd = false;
+                visited.load(s, state);
+                machine.unpack(state);
                 machine.go(h);
                 machine.packInto(state);
                 spent = visited.offer(state, s, h) == Visited.FULL;
-                visited.load(s, state);
-                machine.unpack(state);
-            }
-            if (isEnd) {
-                noteEnd(s, machine.stuckBits(), visited);
             }
         }
 
@@ -2187,7 +2198,6 @@ public final class OneCup {
         int laws = ALL_LAWS;
         int runCount;
         int idle;
-        boolean kept;
 
         void copyFrom(Evening evening) {
             script.copyFrom(evening.script);
