@@ -1,0 +1,166 @@
+/** Promises 18 to 20: other orders with the same reads, and what comes of either. */
+public final class OrderTest {
+    private static final String TWO =
+        "hand 0 { start 1; write a 1; take p; write b 2; give p; wait 1; read a; }\n"
+        + "hand 1 { read a; take p; read b; give p; turn a 5; }";
+
+    public static void main(String[] args) {
+        could();
+        shownStays();
+        reads();
+        bolts();
+        notes();
+        waits();
+        spent();
+        harm();
+        harmStands();
+        Due.close();
+    }
+
+    private static void could() {
+        OneCup x = Due.ran(TWO);
+        Due.is("none yet", x.harm(), -1);
+        Due.is("side by side", x.could(1, 5), 1);
+        Due.is("states", x.status(7), 2);
+        Due.is("shown", x.shown(0), 0);
+        Due.is("shown", x.shown(1), -1);
+        Due.is("shown", x.shown(-1), -1);
+        Due.is("harm", x.harm(), 0);
+        Due.is("either way round", x.could(5, 1), 1);
+        Due.is("the read of a ahead", x.could(1, 9), 0);
+        Due.is("states", x.status(7), 17);
+        Due.is("within a bolt", x.could(3, 7), 0);
+        Due.is("of one hand", x.could(0, 1), -2);
+        Due.is("itself", x.could(1, 1), -2);
+        Due.is("none such", x.could(0, 12), -2);
+        Due.is("none such", x.could(-1, 5), -2);
+        Due.is("refusals", x.status(10), 4);
+        Due.is("states stay", x.status(7), 17);
+        // not started yet as its start is next
+        Due.is("a start and its hand", x.could(0, 5), 0);
+        // laws do not matter
+        x.law(2, false);
+        Due.is("a start and its hand", x.could(0, 5), 0);
+    }
+
+    /** The ORDER stands until another could tells 1, or another LOG is made. */
+    private static void shownStays() {
+        OneCup x = Due.ran(TWO);
+        Due.is("could", x.could(1, 5), 1);
+        Due.is("could not", x.could(3, 7), 0);
+        Due.is("shown", x.shown(0), 0);
+        Due.is("harm", x.harm(), 0);
+        Due.is("refused", x.could(3, 3), -2);
+        Due.is("shown", x.shown(0), 0);
+        Due.is("a text that fails", Due.text(x, "hand"), -4);
+        Due.is("a run that fails", x.run(3), -6);
+        Due.is("harm", x.harm(), 0);
+        Due.is("could", x.could(11, 5), 0);
+        Due.is("keep", x.keep(0), 0);
+        Due.is("harm", x.harm(), 0);
+        Due.is("back", x.back(0), 0);
+        Due.is("no harm", x.harm(), -1);
+        Due.is("none shown", x.shown(0), -1);
+        Due.is("could", x.could(1, 5), 1);
+        Due.is("runs", x.runs(), 12);
+        Due.is("no harm", x.harm(), -1);
+        Due.is("could", x.could(1, 5), 1);
+        Due.is("text", Due.text(x, "hand 0 { }"), 1);
+        Due.is("no harm", x.harm(), -1);
+    }
+
+    private static void reads() {
+        // 0 start, 1 write a 1, 2 read a, 3 write a 2 (hand 0), 4 read a, 5 write b 1 (hand 1)
+        OneCup x = Due.ran("hand 0 { start 1; write a 1; read a; write a 2; } hand 1 { read a; write b 1; }");
+        Due.is("its read must see the write", x.could(3, 5), 0);
+        Due.is("side by side", x.could(3, 4), 1);
+        Due.is("shown", x.shown(2), 0);
+        Due.is("shown", x.shown(3), -1);
+        Due.is("harm", x.harm(), 0);
+        // 4 sees none: hand 1 may be ahead, but then 1 and 4 stand side by side at once
+        OneCup y = Due.told("hand 0 { start 1; write a 1; } hand 1 { read a; write b 1; turn a 1; }");
+        Due.is("run", Due.run(y, 0, 1, 1, 0, 1), 5);
+        Due.is("the write and the write of b", y.could(3, 2), 1);
+        Due.is("shown", y.shown(1), 1);
+        Due.is("the turn must see the write, and did it not in this order", y.could(3, 4), 1);
+        Due.is("shown", y.shown(2), 1);
+        Due.is("harm", y.harm(), 1);
+    }
+
+    private static void bolts() {
+        OneCup x = Due.ran("hand 0 { start 1; take p; write a 1; give p; } hand 1 { take p; write a 2; give p; write b 1; }");
+        Due.is("takes", x.could(1, 4), 1);
+        Due.is("within", x.could(2, 5), 0);
+        Due.is("the other hand first", x.could(1, 7), 1);
+        Due.row("shown", new int[] {x.shown(0), x.shown(1), x.shown(2), x.shown(3), x.shown(4)}, 0, 1, 1, 1, -1);
+        Due.is("a take need not be done", x.could(4, 2), 1);
+        Due.is("harm", x.harm(), 0);
+    }
+
+    private static void notes() {
+        // 0 start 1, 1 start 2, 2 send x (0), 3 read b (0), 4 send x (1), 5 get x (2), 6 get x (2), 7 read c (2)
+        OneCup x = Due.ran("hand 0 { start 1; start 2; send x; read b; } hand 1 { send x; } hand 2 { get x; get x; read c; }");
+        Due.is("acts", x.status(1), 8);
+        Due.is("the get is behind its own send", x.could(2, 6), 0);
+        Due.is("sends among themselves", x.could(2, 4), 1);
+        Due.is("one send is enough", x.could(4, 6), 1);
+        Due.is("both are due", x.could(4, 7), 0);
+        Due.is("a get may be next ahead of its send", x.could(2, 5), 1);
+    }
+
+    private static void waits() {
+        OneCup x = Due.ran("hand 0 { start 1; wait 1; read b; } hand 1 { write a 1; write a 2; }");
+        // 0 start 1, 1 write, 2 write, 3 wait, 4 read b
+        Due.is("a wait may be next", x.could(3, 1), 1);
+        Due.is("behind the wait all are done", x.could(4, 2), 0);
+        Due.is("behind the wait all are done", x.could(4, 1), 0);
+    }
+
+    private static void spent() {
+        // Five hands of twelve reads each: far more states than are gone through.
+        String s = "{ times 6 { read a; read b; } }";
+        OneCup x = Due.ran("hand 0 { start 1; start 2; start 3; start 4; times 6 { read a; read b; } } hand 1 " + s
+            + " hand 2 " + s + " hand 3 " + s + " hand 4 " + s);
+        Due.is("spent", x.could(15, 27), -3);
+        Due.is("states", x.status(7), 3000);
+        Due.is("no harm by it", x.harm(), -1);
+        Due.is("the first states are enough", x.could(4, 16), 1);
+        // Two hands of 53 and 55 acts: 55 * 55 states and the one at the beginning, 3026, are too many.
+        OneCup y = Due.ran("hand 0 { start 1; times 6 { times 9 { read a; } } read a; } hand 1 { times 6 { times 9 { read b; } } }");
+        Due.is("spent", y.could(55, 109), -3);
+        // 1 + 54 * 55 = 2971 states: all of them, and none does it
+        OneCup z = Due.ran("hand 0 { start 1; times 5 { times 9 { read a; } } times 7 { read a; } wait 1; }"
+            + " hand 1 { times 6 { times 9 { read b; } } }");
+        Due.is("acts", z.status(1), 108);
+        Due.is("a start and a read", z.could(0, 60), 0);
+        Due.is("states", z.status(7), 1 + 53 * 55 + 1);
+    }
+
+    private static void harm() {
+        OneCup x = Due.ran("hand 0 { start 1; write a 1; } hand 1 { write a 2; }");
+        Due.is("could", x.could(1, 2), 1);
+        Due.is("another a", x.harm(), 1);
+        OneCup y = Due.ran("hand 0 { start 1; if a = 0 { get x; } write b 1; } hand 1 { turn a 1; }");
+        Due.is("could", y.could(1, 2), 1);
+        Due.is("another b, and one waits", y.harm(), 258);
+        OneCup z = Due.ran("hand 0 { start 1; if a = 0 { get x; } } hand 1 { turn a 1; }");
+        Due.is("could", z.could(2, 1), 1);
+        Due.is("one waits", z.harm(), 256);
+        // a give that is no act is gone by on the way to the write
+        OneCup w = Due.ran("hand 0 { start 1; give p; give q; write a 1; write h 3; } hand 1 { give r; write a 2; move a h; }");
+        Due.is("could", w.could(1, 3), 1);
+        Due.is("another a, another h", w.harm(), 129);
+    }
+
+    /** The harm is of the latest could that told 1, and of no other LOG. */
+    private static void harmStands() {
+        OneCup x = Due.ran("hand 0 { start 1; write a 1; write b 1; } hand 1 { write a 2; write b 2; }");
+        Due.is("could", x.could(1, 3), 1);
+        // both in turn: hand 0 ends b first, as the least hand
+        Due.is("harm", x.harm(), 1);
+        Due.is("could", x.could(2, 4), 1);
+        Due.is("harm", x.harm(), 2);
+        Due.is("could not", x.could(0, 4), 0);
+        Due.is("harm", x.harm(), 2);
+    }
+}
