@@ -62,6 +62,7 @@ public final class OneCup {
     private static final int ALL_LAWS = 31;
     private static final int ALL_MARKS = 127;
     private static final int ALL_BOLTS = 15;
+    private static final int NO_LIMIT = 1000000;
 
     private final Reader reader = new Reader();
     private final Evening now = new Evening();
@@ -260,7 +261,7 @@ public final class OneCup {
     }
 
     public int meets() {
-        return lawClocks().countAll(now.log, links, Integer.MAX_VALUE);
+        return lawClocks().countAll(now.log, links, NO_LIMIT);
     }
 
     public int meet(int k, int what) {
@@ -469,7 +470,7 @@ public final class OneCup {
         if (set < 0 || set > ALL_MARKS) {
             return refuse();
         }
-        return meetingsBy(set, 0, Integer.MAX_VALUE);
+        return meetingsBy(set, 0, NO_LIMIT);
     }
 
     public int least() {
@@ -893,19 +894,13 @@ public final class OneCup {
                 }
             } else if (isDigit(b)) {
                 token = NUMBER;
-                passNumber();
+                number = 0;
+                while (at < length && isDigit(byteAt(at))) {
+                    number = Math.min(number * 10 + byteAt(at) - '0', MOST_NUMBER);
+                    at++;
+                }
             } else {
                 token = isSign(b) ? b : UNKNOWN;
-                at++;
-            }
-        }
-
-        private void passNumber() {
-            number = 0;
-            while (at < length && isDigit(byteAt(at))) {
-                if (number < MOST_NUMBER) {
-                    number = number * 10 + byteAt(at) - '0';
-                }
                 at++;
             }
         }
@@ -1916,7 +1911,7 @@ public final class OneCup {
             if (isBehind(log, links, i, j)) {
                 return show(visited, 0, i, j);
             }
-            for (int s = 0; s < visited.n; s++) {
+            for (int s = 0; s < MOST_STATES && s < visited.n; s++) {
                 visited.load(s, state);
                 unpack();
                 for (int h = 0; h < HANDS; h++) {
@@ -2050,7 +2045,7 @@ public final class OneCup {
             machine.begin(script);
             machine.packInto(state);
             visited.offer(state, NONE, NONE);
-            for (int s = 0; s < visited.n && !spent; s++) {
+            for (int s = 0; s < MOST_STATES && s < visited.n && !spent; s++) {
                 goOnFrom(s, machine, visited);
             }
             states = visited.n;
