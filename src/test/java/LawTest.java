@@ -210,5 +210,8 @@ public final class LawTest {
         Due.is("habit", x.habit(), 15 * 54 * 54);
         Due.is("mend", x.mend(), 1);
         Due.is("least", x.least(), 0);
+        OneCup y = Due.ran("hand 0 { start 5; write h 1; } hand 5 { times 6 { times 5 { turn h 1; read h; } } }");
+        Due.is("with all acts of hand 5", y.meets(), 60);
+        Due.is("the last one", y.meet(59, 1), 61);
     }
 }

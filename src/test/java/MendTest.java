@@ -3,6 +3,7 @@ public final class MendTest {
     public static void main(String[] args) {
         may();
         least();
+        leastOfAll();
         mend();
         Due.close();
     }
@@ -46,6 +47,25 @@ public final class MendTest {
         // r and s would do, but one note does all the same
         Due.is("fewest before least", Due.ran("hand 0 { start 1; start 2; take p; write a 1; give p; take q; write b 1; give q; send z; send z; }"
             + " hand 1 { take p; get z; read a; } hand 2 { take q; get z; read b; }").least(), 64);
+    }
+
+    /** Each cell is ordered by its own bolt or note alone, so all of them are needed. */
+    private static void leastOfAll() {
+        String s = "hand 0 { start 1; take p; write a 1; give p; take q; write b 1; give q; take r; write c 1; give r;"
+            + " take s; write d 1; give s; write e 1; send x; write f 1; send y; write g 1; send z; }"
+            + " hand 1 { take p; read a; give p; take q; read b; give q; take r; read c; give r;"
+            + " take s; read d; give s; get x; read e; get y; read f; get z; read g; }";
+        OneCup x = Due.ran(s);
+        Due.is("all of them", x.least(), 127);
+        for (int mark = 0; mark < 7; mark++) {
+            Due.is("without " + mark, x.may(127 & ~(1 << mark)), 1);
+        }
+        Due.is("with none", x.may(0), 7);
+        for (int law = 0; law < 5; law++) {
+            x.law(law, false);
+        }
+        Due.is("without laws", x.least(), 0);
+        Due.is("seven cells", x.mend(), 127);
     }
 
     private static void mend() {

@@ -11,6 +11,7 @@ public final class OrderTest {
         bolts();
         notes();
         waits();
+        eachCell();
         spent();
         harm();
         harmStands();
@@ -114,6 +115,25 @@ public final class OrderTest {
         Due.is("a wait may be next", x.could(3, 1), 1);
         Due.is("behind the wait all are done", x.could(4, 2), 0);
         Due.is("behind the wait all are done", x.could(4, 1), 0);
+    }
+
+    /** What was written last in a cell is part of a state, whichever cell it is. */
+    private static void eachCell() {
+        for (char c = 'a'; c <= 'h'; c++) {
+            OneCup x = Due.ran("hand 0 { start 1; write " + c + " 1; } hand 1 { write " + c + " 2; }");
+            Due.is("not while the start is next", x.could(0, 2), 0);
+            // (0, 0), (1, 0), (2, 0), (1, 1), and (2, 1) with either written last
+            Due.is("states of " + c, x.status(7), 6);
+            // 0 start, 1 read, 2 write, 3 read (0); 4 read, 5 turn (1)
+            OneCup y = Due.ran("hand 0 { start 1; read " + c + "; write " + c + " 1; read " + c + "; } hand 1 { read " + c + "; turn " + c + " 2; }");
+            Due.is("a read of none and one of the write", y.could(1, 4), 1);
+            Due.is("the write and a read of it", y.could(2, 5), 0);
+            Due.is("a read and the turn, both of the write", y.could(3, 5), 1);
+            // not while 5 is next: behind it the read would see the turn
+            Due.is("states", y.could(0, 4), 0);
+            // (0..3, 0), (3, 1), (3, 2), (4, 0), (4, 1), (4, 2): of 0 its acts done, of 1 its own
+            Due.is("states of " + c, y.status(7), 9);
+        }
     }
 
     private static void spent() {

@@ -6,6 +6,7 @@ public final class RowTest {
 
     public static void main(String[] args) {
         row();
+        fullRows();
         write();
         widths();
         paste();
@@ -45,6 +46,27 @@ public final class RowTest {
         x.row(0, 0, 2);
         x.run(0);
         Due.is("did nothing", x.status(3), 0);
+    }
+
+    /** A full row is 0 up to its end, and the rows beside it are as they were. */
+    private static void fullRows() {
+        OneCup x = Due.told("hand 0 { read a; }");
+        for (int slot = 3; slot >= 0; slot--) {
+            x.row(slot, 2, 60);
+            for (int k = 0; k < 60; k++) {
+                x.write(slot, k, 7);
+            }
+        }
+        for (int slot = 0; slot < 4; slot++) {
+            Due.is("a new row", x.row(slot, 2, 60), 0);
+            for (int next = slot + 1; next < 4; next++) {
+                x.run(next);
+                Due.is("the row beside", x.status(3), 60);
+            }
+            x.run(slot);
+            Due.is("all but the first 0 find no code", x.status(3), 59);
+            Due.is("the last number", x.write(slot, 59, 9), 0);
+        }
     }
 
     private static void write() {
