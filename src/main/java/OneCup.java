@@ -185,7 +185,6 @@ public final class OneCup {
         links.build(now.log);
         clocksStand = false;
         orders.has = false;
-        orders.shownLength = 0;
     }
 
     public int act(int i, int what) {
@@ -1892,9 +1891,10 @@ public final class OneCup {
     private static final class Orders {
         private static final int ROOM = 5;
 
-        /** The ORDER that is shown, if there is one, and its two acts. */
+        /** The ORDER that is shown: it outlives its log, as only another could() takes it away. */
         final int[] shownHand = new int[MOST_ACTS];
         int shownLength;
+        /** Whether the ORDER that is shown and its two acts are of the log that stands. */
         boolean has;
         int one;
         int two;

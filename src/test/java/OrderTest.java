@@ -7,6 +7,7 @@ public final class OrderTest {
     public static void main(String[] args) {
         could();
         shownStays();
+        shownOfAnotherLog();
         reads();
         bolts();
         notes();
@@ -44,7 +45,7 @@ public final class OrderTest {
         Due.is("a start and its hand", x.could(0, 5), 0);
     }
 
-    /** The ORDER stands until another could tells 1, or another LOG is made. */
+    /** The ORDER stands until another could tells 1, its harm until another LOG is made. */
     private static void shownStays() {
         OneCup x = Due.ran(TWO);
         Due.is("could", x.could(1, 5), 1);
@@ -60,14 +61,39 @@ public final class OrderTest {
         Due.is("keep", x.keep(0), 0);
         Due.is("harm", x.harm(), 0);
         Due.is("back", x.back(0), 0);
-        Due.is("no harm", x.harm(), -1);
-        Due.is("none shown", x.shown(0), -1);
+        Due.is("no harm behind back", x.harm(), -1);
+        Due.is("shown behind back", x.shown(0), 0);
         Due.is("could", x.could(1, 5), 1);
         Due.is("runs", x.runs(), 12);
-        Due.is("no harm", x.harm(), -1);
+        Due.is("no harm behind runs", x.harm(), -1);
+        Due.is("shown behind runs", x.shown(0), 0);
+        Due.is("could", x.could(1, 5), 1);
+        Due.is("row", x.row(0, 0, 0), 0);
+        Due.is("run", x.run(0), 12);
+        Due.is("no harm behind run", x.harm(), -1);
+        Due.is("shown behind run", x.shown(0), 0);
         Due.is("could", x.could(1, 5), 1);
         Due.is("text", Due.text(x, "hand 0 { }"), 1);
-        Due.is("no harm", x.harm(), -1);
+        Due.is("no harm behind text", x.harm(), -1);
+        Due.is("shown behind text", x.shown(0), 0);
+        Due.is("no more shown", x.shown(1), -1);
+    }
+
+    /** An ORDER of another log is shown until a could of the new one tells 1, though it be by an empty ORDER. */
+    private static void shownOfAnotherLog() {
+        OneCup x = Due.ran("hand 0 { start 1; write a 1; write a 2; } hand 1 { read b; read a; }");
+        Due.is("could", x.could(2, 4), 1);
+        Due.row("shown", new int[] {x.shown(0), x.shown(1), x.shown(2), x.shown(3)}, 0, 0, 1, -1);
+        Due.is("text", Due.text(x, "hand 0 { start 1; write a 1; } hand 1 { read a; }"), 2);
+        Due.is("runs", x.runs(), 3);
+        Due.row("shown", new int[] {x.shown(0), x.shown(1), x.shown(2), x.shown(3)}, 0, 0, 1, -1);
+        Due.is("no harm of another log", x.harm(), -1);
+        Due.is("could not", x.could(0, 2), 0);
+        Due.is("shown", x.shown(1), 0);
+        Due.is("still no harm", x.harm(), -1);
+        Due.is("could", x.could(1, 2), 1);
+        Due.row("shown", new int[] {x.shown(0), x.shown(1)}, 0, -1);
+        Due.is("harm", x.harm(), 0);
     }
 
     private static void reads() {

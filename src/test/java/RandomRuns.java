@@ -37,6 +37,9 @@ public final class RandomRuns {
             for (int evening = 0; evening < 4 && wrong < 20; evening++) {
                 r.evening(seed);
             }
+            for (int text = 0; text < 3 && wrong < 20; text++) {
+                r.stroll();
+            }
         }
         System.out.println(calls + " calls on both, " + wrong + " answers unlike");
         System.exit(wrong == 0 ? 0 : 1);
@@ -170,6 +173,21 @@ public final class RandomRuns {
         ask("fault", 0);
         ask("fault", 1);
         ask("fault", 2);
+        lookAtWhatStays();
+    }
+
+    /** What no new log takes away, or what it must take away. */
+    private void lookAtWhatStays() {
+        for (int k = -1; k < 4; k++) {
+            ask("shown", k);
+            ask("led", k);
+        }
+        ask("harm");
+        ask("stuck");
+        ask("gates");
+        ask("cell", upTo(9));
+        ask("meet", 0, upTo(5));
+        ask("status", upTo(11));
     }
 
     // ---- evenings ----
@@ -191,6 +209,7 @@ public final class RandomRuns {
                 ask("keep", upTo(5) - 1);
             }
             int acts = upTo(4) == 0 ? ask("runs") : ask("run", upTo(3) == 0 ? upTo(6) - 1 : 0);
+            lookAtWhatStays();
             lookAtLog(slow.log.size());
             orders(slow.log.size());
             ask("join");
@@ -198,8 +217,7 @@ public final class RandomRuns {
             lookAtBook();
             if (round == 1 && upTo(3) == 0) {
                 ask("back", upTo(5) - 1);
-                ask("shown", 0);
-                ask("harm");
+                lookAtWhatStays();
                 lookAtLog(slow.log.size());
                 ask("join");
                 lookAtBook();
@@ -302,6 +320,46 @@ public final class RandomRuns {
             }
             ask("shown", acts);
             ask("harm");
+        }
+    }
+
+    /** Calls in any order, so that each is asked behind each other one. */
+    private void stroll() {
+        tell(upTo(5) == 0 ? spoilt(program()) : program());
+        for (int k = 0; k < 120; k++) {
+            int acts = slow.log.size();
+            int i = upTo(acts + 2) - 1;
+            int j = upTo(acts + 2) - 1;
+            switch (upTo(30)) {
+                case 0: ask("runs"); break;
+                case 1: ask("run", upTo(5) - 1); break;
+                case 2: ask("keep", upTo(5) - 1); break;
+                case 3: ask("back", upTo(5) - 1); break;
+                case 4: ask("law", upTo(6), upTo(2) == 0); break;
+                case 5: ask("text"); break;
+                case 6: tell(program()); break;
+                case 7: ask("ends"); ask("status", 7); break;
+                case 8: ask("waits"); ask("status", 7); break;
+                case 9: ask("led", upTo(6) - 1); break;
+                case 10: case 11: case 12: ask("could", i, j); ask("status", 7); break;
+                case 13: ask("shown", upTo(6) - 1); break;
+                case 14: ask("harm"); break;
+                case 15: ask("join"); break;
+                case 16: ask("joined", upTo(8) - 1, upTo(7)); break;
+                case 17: ask("may", upTo(130) - 1); break;
+                case 18: ask("meets"); break;
+                case 19: ask("meet", upTo(5) - 1, upTo(5)); break;
+                case 20: ask("before", i, j); break;
+                case 21: ask("way", i, j, upTo(5) - 1); break;
+                case 22: ask("first", upTo(10) - 1); break;
+                case 23: ask("blink", upTo(4) - 1); break;
+                case 24: ask("small", upTo(5)); break;
+                case 25: ask(acts <= 45 ? "mend" : "ring"); break;
+                case 26: ask(acts <= 45 ? "least" : "habit"); break;
+                case 27: fillRow(); break;
+                case 28: stir(); break;
+                default: lookAtWhatStays(); break;
+            }
         }
     }
 

@@ -242,7 +242,6 @@ final class SlowCup {
     }
 
     private void logMade() {
-        shownOrder = new ArrayList<>();
         couldPair = null;
     }
 
@@ -1212,7 +1211,6 @@ final class SlowCup {
             return -6;
         }
         copy(images[k], this);
-        shownOrder = new ArrayList<>();
         couldPair = null;
         return 0;
     }
