@@ -8,6 +8,9 @@ public final class AllRunsTest {
         waits();
         unlike();
         moves();
+        whatIsReadAlone();
+        eachBoltAndNote();
+        startsOfSome();
         spent();
         Due.close();
     }
@@ -74,6 +77,53 @@ public final class AllRunsTest {
         // none: a0 a1; read: a0/0 a1/0 a1/1; written: a0/b0 a1/b0 a1/b1; all: a0 a1
         Due.is("states", x.status(7), 1 + 2 + 3 + 3 + 2);
         Due.is("a move of what was there", Due.told("hand 0 { start 1; move a b; } hand 1 { turn a 1; }").ends(), 2);
+    }
+
+    /** What a read or an if has read is no part of a state; nor is that of a move that is written, or left out. */
+    private static void whatIsReadAlone() {
+        for (String look : new String[] {"read a;", "if a < 9 { }", "if a = 5 { }"}) {
+            OneCup x = Due.told("hand 0 { start 1; " + look + " read b; } hand 1 { turn a 1; }");
+            Due.is("one end", x.ends(), 1);
+            Due.is("the beginning, and three by two: " + look, x.status(7), 1 + 3 * 2);
+        }
+        OneCup y = Due.told("hand 0 { start 1; if a = 0 { move b c; } read d; } hand 1 { turn a 1; }");
+        Due.is("one end", y.ends(), 1);
+        // of hand 0: at the if, at the move's read, at its write, at the read of d, at its end
+        Due.is("a move that is left out", y.status(7), 1 + 2 + 2 + 2 + 2 + 2);
+    }
+
+    /** Each of them is a part of a state, whichever it is, and two at once. */
+    private static void eachBoltAndNote() {
+        for (String b : new String[] {"p", "q", "r", "s"}) {
+            OneCup x = Due.told("hand 0 { start 1; take " + b + "; give " + b + "; } hand 1 { take " + b + "; give " + b + "; }");
+            Due.is("ends by " + b, x.ends(), 1);
+            Due.is("not both at once", x.status(7), 1 + 3 * 3 - 1);
+            Due.is("none waits", x.waits(), 0);
+            for (String c : new String[] {"p", "q", "r", "s"}) {
+                OneCup y = Due.told("hand 0 { start 1; take " + b + "; take " + c + "; } hand 1 { take " + c + "; take " + b + "; }");
+                Due.is("ends by " + b + c, y.ends(), b.equals(c) ? 1 : 3);
+                Due.is("who waits first", y.waits(), b.equals(c) ? 3 : 2);
+            }
+        }
+        for (String k : new String[] {"x", "y", "z"}) {
+            OneCup x = Due.told("hand 0 { start 1; send " + k + "; send " + k + "; } hand 1 { get " + k + "; get " + k + "; }");
+            Due.is("ends by " + k, x.ends(), 1);
+            // (0, 0), (1, 0), (2, 0), (2, 1), (3, 0), (3, 1), (3, 2)
+            Due.is("no get ahead of its send", x.status(7), 7);
+            for (String m : new String[] {"x", "y", "z"}) {
+                OneCup y = Due.told("hand 0 { start 1; send " + k + "; } hand 1 { get " + m + "; }");
+                Due.is("waits for " + m, y.waits(), k.equals(m) ? 0 : 2);
+                Due.is("states", y.status(7), k.equals(m) ? 4 : 3);
+            }
+        }
+    }
+
+    /** A hand that was started in one state is not in another. */
+    private static void startsOfSome() {
+        OneCup x = Due.told("hand 0 { start 1; if a = 0 { start 2; } } hand 1 { turn a 1; } hand 2 { write b 1; }");
+        Due.is("with hand 2 or without", x.ends(), 2);
+        // the beginning; at the if, at its end without: by two each, but the latter has turned; at start 2, 2 started, 2 gone
+        Due.is("states", x.status(7), 1 + 2 + 1 + 2 + 2 + 2);
     }
 
     private static void spent() {

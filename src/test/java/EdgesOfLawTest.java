@@ -212,6 +212,8 @@ public final class EdgesOfLawTest {
     private static void meetsOf(String one, String two, int due, int withoutTurns) {
         OneCup x = Due.ran("hand 0 { start 1; " + one + " } hand 1 { " + two + " }");
         Due.is("III: " + one + " and " + two, x.meets(), due);
+        Due.is("III: of two hands", x.meet(0, 0) >= 0 && x.act(x.meet(0, 0), 0) == 0 ? 1 : 0, due > 0 ? 1 : 0);
+        Due.is("III: the last is told", x.meet(due - 1, 1) >= 0 ? 1 : 0, due > 0 ? 1 : 0);
         x.law(4, false);
         Due.is("III: " + one + " and " + two + " without turns", x.meets(), withoutTurns);
     }

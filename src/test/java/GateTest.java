@@ -3,6 +3,7 @@ public final class GateTest {
     public static void main(String[] args) {
         twoGates();
         kindsOfEdges();
+        readsBetween();
         inOthers();
         open();
         Due.close();
@@ -61,6 +62,22 @@ public final class GateTest {
             v.law(law, false);
         }
         Due.is("without laws", v.blink(0), 0);
+    }
+
+    /** A write is behind each read of its cell, though other reads stand between; and behind what it overwrites. */
+    private static void readsBetween() {
+        OneCup x = Due.told("hand 0 { start 1; start 2; gate { read a; read b; } } hand 1 { write a 1; write b 1; } hand 2 { read a; read a; read a; }");
+        Due.is("run", Due.run(x, 0, 0, 0, 0, 2, 2, 2, 1, 1, 0), 11);
+        Due.is("over three reads", x.blink(0), 0);
+        OneCup y = Due.told("hand 0 { start 1; gate { write a 1; read b; } } hand 1 { write a 2; write b 1; }");
+        Due.is("run", Due.run(y, 0, 0, 0, 1, 1, 0), 7);
+        Due.is("write and write", y.blink(0), 0);
+        OneCup z = Due.told("hand 0 { gate { start 1; take p; give p; read b; } } hand 1 { take p; write b 1; }");
+        Due.is("run", Due.run(z, 0, 0, 0, 0, 1, 1, 0), 8);
+        Due.is("a bolt of the gate's own", z.blink(0), 0);
+        OneCup w = Due.told("hand 0 { gate { read a; read a; } start 1; } hand 1 { write a 1; }");
+        Due.is("run", Due.run(w, 0, 0, 0, 0, 0, 1), 6);
+        Due.is("out and not back", w.blink(0), 1);
     }
 
     private static void inOthers() {

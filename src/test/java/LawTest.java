@@ -12,6 +12,8 @@ public final class LawTest {
         eachLawOrders();
         meetings();
         turns();
+        whatIsKnown();
+        firstActs();
         small();
         manyMeetings();
         Due.close();
@@ -178,6 +180,51 @@ public final class LawTest {
         // 1, 2, 3 with 4; 1, 3 with 5
         Due.is("while they do not", x.meets(), 5);
         Due.is("a turn and a write", Due.ran("hand 0 { start 1; turn a 1; } hand 1 { write a 1; }").meets(), 1);
+    }
+
+    /** What a hand knows by one act it knows still behind another that knows less. */
+    private static void whatIsKnown() {
+        OneCup x = Due.ran("hand 0 { start 1; send x; write a 1; send y; } hand 1 { get y; get x; read a; }");
+        Due.is("by y, though x came behind it", x.before(2, 6), 1);
+        Due.is("meets", x.meets(), 0);
+        OneCup y = Due.ran("hand 0 { start 1; write a 1; send x; write b 1; } hand 1 { get x; read a; read b; }");
+        Due.is("of b alone", y.meets(), 1);
+        Due.is("of b alone", y.meet(0, 2), 1);
+        // without starts a hand's second act is behind its first, and behind what that one is behind
+        OneCup z = Due.ran("hand 0 { start 1; write a 1; send x; } hand 1 { get x; read a; }");
+        Due.is("starts", z.law(2, false), 1);
+        Due.is("behind the send", z.before(2, 4), 1);
+        Due.row("by its way", way(z, 2, 4), 2, 3, 4);
+        Due.row("by its hand", way(z, 3, 4), 3, 4);
+        Due.is("meets", z.meets(), 0);
+    }
+
+    /** Act 0 is one as any other. */
+    private static void firstActs() {
+        OneCup x = Due.told("hand 0 { send x; start 1; send x; } hand 1 { get x; read a; get x; }");
+        Due.is("acts", x.runs(), 6);
+        Due.is("the first get took the first send", x.before(2, 3), 0);
+        Due.is("the second took the second", x.before(2, 5), 1);
+        x.law(2, false);
+        Due.is("by the send alone", x.before(0, 3), 1);
+        Due.row("one step", way(x, 0, 3), 0, 3);
+        // hand 1 has no acts, so that the wait for it is behind none
+        OneCup y = Due.ran("hand 0 { start 2; start 1; } hand 2 { wait 1; read c; }");
+        y.law(2, false);
+        Due.is("not behind act 0", y.before(0, 2), 0);
+        Due.is("nor behind the other start", y.before(1, 2), 0);
+        OneCup z = Due.ran("hand 0 { write a 1; start 1; read b; } hand 1 { write a 2; }");
+        z.law(2, false);
+        Due.is("act 0 meets", z.meet(0, 0), 0);
+        Due.is("small", z.small(1), 1);
+        Due.is("mend", z.mend(), 1);
+        OneCup w = Due.ran("hand 0 { turn a 1; start 1; } hand 1 { turn a 2; }");
+        w.law(2, false);
+        Due.is("by the turn", w.before(0, 2), 1);
+        OneCup v = Due.ran("hand 1 { read b; } hand 0 { start 1; wait 1; }");
+        v.law(2, false);
+        Due.is("by the wait", v.before(1, 2), 1);
+        Due.is("not by the start", v.before(0, 1), 0);
     }
 
     private static void small() {

@@ -13,9 +13,13 @@ public final class OrderTest {
         notes();
         waits();
         eachCell();
+        eachTwoCells();
+        eachBolt();
+        eachNote();
         spent();
         harm();
         harmStands();
+        harmByTheNextOnes();
         Due.close();
     }
 
@@ -162,6 +166,57 @@ public final class OrderTest {
         }
     }
 
+    /** What was written last in each of two cells. */
+    private static void eachTwoCells() {
+        for (char c = 'a'; c <= 'h'; c++) {
+            for (char d = 'a'; d <= 'h'; d++) {
+                if (c == d) {
+                    continue;
+                }
+                OneCup x = Due.ran("hand 0 { start 1; write " + c + " 1; write " + d + " 1; } hand 1 { write " + c + " 2; write " + d + " 2; }");
+                Due.is("not while the start is next", x.could(0, 3), 0);
+                // one; by none, or by one hand alone: five; (1, 1), (2, 1), (1, 2) by two each; (2, 2) by four
+                Due.is("states of " + c + " and " + d, x.status(7), 1 + 5 + 6 + 4);
+            }
+        }
+    }
+
+    private static void eachBolt() {
+        for (String b : new String[] {"p", "q", "r", "s"}) {
+            OneCup x = Due.ran("hand 0 { start 1; take " + b + "; read a; give " + b + "; } hand 1 { take " + b + "; read c; give " + b + "; }");
+            Due.is("within " + b, x.could(2, 5), 0);
+            // the beginning, and (0..3, 0..3) without those at which both have it: 1 or 2 done of either
+            Due.is("states of " + b, x.status(7), 1 + 16 - 4);
+            Due.is("behind it", x.could(3, 4), 1);
+            for (String other : new String[] {"p", "q", "r", "s"}) {
+                if (!b.equals(other)) {
+                    OneCup y = Due.ran("hand 0 { start 1; take " + b + "; read a; give " + b + "; } hand 1 { take " + other + "; read c; }");
+                    Due.is("within " + b + " and " + other, y.could(2, 5), 1);
+                }
+            }
+        }
+    }
+
+    /** A get is behind its own send and the get ahead of its note, not behind those of others. */
+    private static void eachNote() {
+        String[] names = {"x", "y", "z"};
+        for (String k : names) {
+            for (String m : names) {
+                // 0, 1 starts; 2 send k, 3 read a (0); 4 send m, 5 read b (1); 6 get k, 7 get m, 8 read c (2)
+                OneCup x = Due.told("hand 0 { start 1; start 2; send " + k + "; read a; } hand 1 { send " + m + "; read b; } hand 2 { get " + k + "; get " + m + "; read c; }");
+                Due.is("run", x.runs(), 9);
+                Due.is("the first get needs its own send alone", x.could(4, 7), 1);
+                Due.is("both are due", x.could(4, 8), 0);
+                Due.is("sends among themselves", x.could(2, 5), k.equals(m) ? 0 : 1);
+                // 3 get m is hand 1's, 4 get k is hand 2's: those of one note as in the LOG
+                OneCup y = Due.told("hand 0 { start 1; start 2; send " + k + "; send " + m + "; read a; } hand 1 { get " + k + "; read b; } hand 2 { get " + m + "; read c; }");
+                Due.is("run", y.runs(), 9);
+                Due.is("gets among themselves", y.could(5, 8), k.equals(m) ? 0 : 1);
+                Due.is("either may be next", y.could(5, 7), 1);
+            }
+        }
+    }
+
     private static void spent() {
         // Five hands of twelve reads each: far more states than are gone through.
         String s = "{ times 6 { read a; read b; } }";
@@ -196,6 +251,17 @@ public final class OrderTest {
         OneCup w = Due.ran("hand 0 { start 1; give p; give q; write a 1; write h 3; } hand 1 { give r; write a 2; move a h; }");
         Due.is("could", w.could(1, 3), 1);
         Due.is("another a, another h", w.harm(), 129);
+    }
+
+    /** Both go at once behind the ORDER, ahead of any hand that is less. */
+    private static void harmByTheNextOnes() {
+        OneCup x = Due.ran("hand 0 { start 1; start 2; move a b; } hand 1 { turn a 1; } hand 2 { move a c; }");
+        // 2, 3 move (0), 4 turn (1), 5, 6 move (2)
+        Due.is("could", x.could(4, 5), 1);
+        // b is 1 either way: hand 0 moves behind both
+        Due.is("c alone", x.harm(), 4);
+        Due.is("could", x.could(5, 4), 1);
+        Due.is("c alone", x.harm(), 4);
     }
 
     /** The harm is of the latest could that told 1, and of no other LOG. */

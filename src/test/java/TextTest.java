@@ -172,6 +172,9 @@ public final class TextTest {
         bad("hand 0 { times 6 { move a b; move a b; gate { move c d; } if a = 1 { read a; } } if a = 1 { } }", 3, 94);
         bad("hand 0 { times 8 { gate { times 2 { move a b; move b a; } } } }", 3, 62);
         good("hand 0 { times 9 { } times 9 { times 9 { } } }", 1);
+        // sixty, and as many again
+        bad("hand 0 { times 2 { times 6 { times 5 { turn a 1; turn b 1; } } } }", 3, 65);
+        bad("hand 0 { times 6 { times 5 { turn a 1; turn b 1; } } times 2 { gate { } } }", 3, 74);
         // an earlier fault comes first
         bad("hand 0 { times 9 { times 9 { read a; } } read i; }", 1, 46);
     }
