@@ -13,6 +13,9 @@ public final class AgainTest {
         "hand 0 { start 1; send x; send y; send z; take p; take q; take r; take s; } hand 1 { send x; get x; get x; get z; get z; }",
         "hand 0 { start 1; take p; take q; give q; give p; wait 1; } hand 1 { take q; take p; give p; give q; move d e; }",
         "hand 0 { start 2; start 3; move a b; if b = 0 { turn a 1; } write f 1; } hand 2 { move b a; if a < 5 { turn b 7; } } hand 3 { turn f 3; get z; }",
+        "hand 0 { start 1; start 2; turn a 1; times 9 { times 3 { move a b; } } } hand 1 { turn a 1; times 9 { times 3 { move a c; } } }"
+            + " hand 2 { turn a 1; times 9 { times 3 { move a d; } } }",
+        "hand 0 { start 1; if a = 0 { write b 0; } read d; } hand 1 { turn a 1; if c = 0 { write e 0; } read a; }",
         "hand 0 { get x; }",
         "hand 1 { write a 1; }",
     };
@@ -159,6 +162,7 @@ public final class AgainTest {
     private static void books(String one, String two) {
         OneCup x = new OneCup();
         x.keep(0);
+        x.join();
         Due.text(x, two);
         x.runs();
         x.join();
@@ -170,10 +174,13 @@ public final class AgainTest {
         x.runs();
         x.join();
         x.back(1);
-        OneCup y = fresh(two);
+        OneCup y = new OneCup();
+        y.join();
+        Due.text(y, two);
+        y.runs();
         y.join();
         Due.is("book: pairs", x.status(4), y.status(4));
-        Due.is("book: logs", x.status(9), 1);
+        Due.is("book: logs", x.status(9), 2);
         for (int k = 0; k < 6; k++) {
             for (int what = 0; what < 6; what++) {
                 Due.is("book: pair " + k + " " + what, x.joined(k, what), y.joined(k, what));

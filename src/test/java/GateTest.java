@@ -5,6 +5,7 @@ public final class GateTest {
         kindsOfEdges();
         readsBetween();
         inOthers();
+        edgesOfThisLogAlone();
         open();
         Due.close();
     }
@@ -93,6 +94,17 @@ public final class GateTest {
         Due.is("ahead of the ring", y.blink(0), 1);
         Due.is("ring", y.blink(1), 0);
         Due.is("behind the ring", y.blink(2), 1);
+    }
+
+    /** Acts 3 and 5 were gets in the log before, of what acts 2 and 4 sent. */
+    private static void edgesOfThisLogAlone() {
+        OneCup x = Due.ran("hand 0 { start 1; read a; send x; get y; read b; } hand 1 { get x; send y; }");
+        Due.is("a get", x.act(3, 1), 6);
+        Due.is("a get", x.act(5, 1), 6);
+        Due.is("text", Due.text(x, "hand 0 { start 1; gate { read a; read b; } } hand 1 { read c; read d; }"), 2);
+        Due.is("run", Due.run(x, 0, 0, 0, 1, 1, 0), 7);
+        Due.is("they are reads", x.act(3, 1) + x.act(5, 1), 0);
+        Due.is("one blink", x.blink(0), 1);
     }
 
     /** A gate that its hand does not come out of goes to the end. */

@@ -14,6 +14,7 @@ public final class OrderTest {
         waits();
         eachCell();
         eachTwoCells();
+        eachTwoHands();
         eachBolt();
         eachNote();
         spent();
@@ -177,6 +178,19 @@ public final class OrderTest {
                 Due.is("not while the start is next", x.could(0, 3), 0);
                 // one; by none, or by one hand alone: five; (1, 1), (2, 1), (1, 2) by two each; (2, 2) by four
                 Due.is("states of " + c + " and " + d, x.status(7), 1 + 5 + 6 + 4);
+            }
+        }
+    }
+
+    /** How far each hand is is part of a state, whichever it is. */
+    private static void eachTwoHands() {
+        for (int g = 1; g < 6; g++) {
+            for (int h = g + 1; h < 6; h++) {
+                OneCup x = Due.ran("hand 0 { start " + g + "; start " + h + "; } hand " + g + " { read a; read b; } hand " + h + " { read c; read d; }");
+                Due.is("both of " + g + " and " + h, x.could(3, 5), 1);
+                Due.row("shown", new int[] {x.shown(0), x.shown(1), x.shown(2), x.shown(3), x.shown(4)}, 0, 0, g, h, -1);
+                Due.is("not while the first start is next", x.could(0, 5), 0);
+                Due.is("states", x.status(7), 1 + 3 + 9);
             }
         }
     }
