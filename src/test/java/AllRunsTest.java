@@ -11,6 +11,7 @@ public final class AllRunsTest {
         whatIsReadAlone();
         eachBoltAndNote();
         startsOfSome();
+        manyStates();
         spent();
         Due.close();
     }
@@ -116,6 +117,17 @@ public final class AllRunsTest {
                 Due.is("states", y.status(7), k.equals(m) ? 4 : 3);
             }
         }
+    }
+
+    /** Three hands of 10, 11 and 12 turns: each state once, however many there are. */
+    private static void manyStates() {
+        OneCup x = Due.told("hand 0 { start 1; start 2; times 5 { turn a 7; turn a 90; } } hand 1 { turn b 1; times 5 { turn b 8; turn b 90; } }"
+            + " hand 2 { times 6 { turn c 9; turn c 99; } }");
+        Due.is("one end", x.ends(), 1);
+        Due.is("states", x.status(7), 1 + 12 + 11 * 12 * 13);
+        Due.is("acts", x.runs(), 35);
+        Due.is("an order of none", x.could(0, 12), 0);
+        Due.is("states", x.status(7), 1 + 12 + 11 * 12 * 13);
     }
 
     /** A hand that was started in one state is not in another. */

@@ -273,6 +273,8 @@ public final class EdgesOfTextTest {
         Due.is("4: gates", x.gates(), 0);
         Due.is("4: before", x.before(0, 1), -2);
         Due.is("4: always", x.always(0), 15);
+        Due.is("4: cell a", x.cell(0), 0);
+        Due.is("4: stuck", x.stuck(), 0);
         Due.is("4: the new text alone", x.runs(), 1);
         Due.is("4: cell a", x.cell(0), 0);
         Due.is("4: cell b", x.cell(1), 1);

@@ -105,6 +105,12 @@ public final class GateTest {
         Due.is("run", Due.run(x, 0, 0, 0, 1, 1, 0), 7);
         Due.is("they are reads", x.act(3, 1) + x.act(5, 1), 0);
         Due.is("one blink", x.blink(0), 1);
+        // act 5 was in the gate and came of act 4; this log ends ahead of it
+        OneCup y = Due.ran("hand 0 { start 1; gate { send x; get y; } } hand 1 { get x; send y; }");
+        Due.is("out and back", y.blink(0), 0);
+        Due.is("text", Due.text(y, "hand 0 { start 1; gate { write a 1; } } hand 1 { read a; }"), 2);
+        Due.is("runs", y.runs(), 5);
+        Due.is("not back", y.blink(0), 1);
     }
 
     /** A gate that its hand does not come out of goes to the end. */
